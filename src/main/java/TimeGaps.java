@@ -292,11 +292,10 @@ public final class TimeGaps {
         }
         history.remember(plan);
         int before = plan.gaps;
-        // A needless gap that goes changes no bound, and what was needed with
-        // it is needed without it: the gaps below are not looked at again.
+        // A needless gap that goes changes no bound (net stays right), and what was
+        // needed with it is needed without it: those below are not looked at again.
         for (int i = 0; i < GAP_LIMIT && gap != NOT_FOUND; i++) {
             plan.removeGap(gap);
-            net.build(plan, NONE);
             gap = firstNeedless(gap);
         }
         int dropped = before - plan.gaps;

@@ -265,6 +265,10 @@ public final class BoundsTest {
             C.is("ordered(" + i + ")", x.ordered(i), due[i]);
         }
         C.is("ordered(5)", x.ordered(5), TimeGaps.NOT_FOUND);
+        x.set(0, 4);
+        C.is("earlier by 1", x.ordered(2), 2);
+        C.is("earlier by 1", x.ordered(3), 4);
+        C.is("later by 1", x.ordered(4), 1);
         C.is("ordered(max)", x.ordered(Integer.MAX_VALUE), TimeGaps.NOT_FOUND);
         C.is("ordered(-1)", x.ordered(-1), NO);
         C.is("ordered(min)", x.ordered(Integer.MIN_VALUE), NO);
@@ -290,6 +294,11 @@ public final class BoundsTest {
         C.is("middle(1)", x.middle(1), 13);
         C.is("middle(2)", x.middle(2), 25);
         C.is("middle(3)", x.middle(3), 30);
+        // a from 0 to 40 at 20 leaves b from 0 to 23: 11, and c from 6 to 11: 8.
+        x = Check.of("end 40;event a;event b;event c;gap a b most 3;gap b c most 0;gap c b most 5;");
+        C.is("middle(1)", x.middle(1), 20);
+        C.is("middle(2)", x.middle(2), 11);
+        C.is("middle(3)", x.middle(3), 8);
     }
 
     private static void lastly() {
@@ -306,6 +315,10 @@ public final class BoundsTest {
             C.is("lastly(" + i + ")", x.lastly(i), then[i]);
         }
         C.is("lastly(5)", x.lastly(5), TimeGaps.NOT_FOUND);
+        x.set(3, 10);
+        C.is("later by 1", x.lastly(1), 2);
+        C.is("later by 1", x.lastly(2), 4);
+        C.is("later by 1", x.lastly(3), 1);
         C.is("lastly(max)", x.lastly(Integer.MAX_VALUE), TimeGaps.NOT_FOUND);
         C.is("lastly(-1)", x.lastly(-1), NO);
         C.is("START alone", new TimeGaps().lastly(0), 0);

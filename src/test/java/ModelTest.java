@@ -11,19 +11,19 @@ import java.util.Random;
 public final class ModelTest {
     private static final int RUNS = 900;
     private static final int CALLS = 500;
-    // A letter for each argument: e event, g gap, k kind, n number, t time, E END,
-    // s slot, w what, i index, b index of a byte.
+    // A letter for each argument: e event, o another event, g gap, k kind, n number, t time,
+    // E END, s slot, i index, b index of a byte; a digit: from 0 to that digit, v: to 12.
     private static final String[] OPERATIONS = {
-        "tell eekn", "tell eekn", "tell eekn", "tell eekn", "drop g", "set gn", "set gn", "turn g", "turn g",
-        "pin et", "unpin e", "unpin e", "end E", "reverse g", "reverse g", "undo ", "undo ", "keep s", "restore s"};
-    private static final String[] SELDOM = {"tighten ", "thin ", "pinAll "};
+        "tell eokn", "tell eokn", "tell eokn", "tell eokn", "drop g", "set gn", "set gn", "turn g", "turn g",
+        "pin et", "unpin e", "end E", "reverse g", "reverse g", "undo ", "undo ", "keep s", "restore s"};
+    private static final String[] SELDOM = {"tighten ", "tighten ", "thin ", "pinAll "};
     private static final String[] QUESTIONS = {
-        "errorPosition ", "value w", "value w", "value w", "letter ei", "gap gw", "gap gw", "event ew", "event ew",
-        "bound ee", "way eei", "wayLength ee", "relation ee", "play ee", "pairs w", "direct ee", "ordered i",
-        "middle e", "lastly i", "can et", "widest ", "freest ", "why eeknw", "why eeknw", "ring eekni",
-        "culprit eekn", "tightest eek", "spare g", "needless ", "needs e", "ifTold eeknw", "ifDropped gw",
-        "ifTurned gw", "ifPinned etw", "leastEnd ", "slowest ", "log iw", "tightShare ", "meanRoom ",
-        "listLength ", "listByte b", "setupLength ", "setupByte b", "truncate i", "load "};
+        "errorPosition ", "value v", "value v", "value v", "letter ei", "gap g7", "gap g7", "event e4", "event e4",
+        "bound eo", "bound eo", "way eoi", "way eoi", "wayLength eo", "relation eo", "play eo", "pairs 5",
+        "direct eo", "ordered i", "middle e", "lastly i", "can et", "widest ", "freest ", "why eokn2", "why eokn2",
+        "ring eokni", "culprit eokn", "tightest eok", "spare g", "needless ", "needs e", "ifTold eokn2",
+        "ifDropped g2", "ifTurned g2", "ifPinned et2", "leastEnd ", "slowest ", "log i2", "tightShare ",
+        "meanRoom ", "listLength ", "listByte b", "setupLength ", "setupByte b", "truncate i"};
     private static final String[] WORDS = {
         "a", "b", "cc", "d", "e", "fgh", "zzzzz", "q", "r", "s", "t", "u", "end", "event", "gap", "most", "least",
         "off", "pin", "start", "toolong", "", " a", "a ", "A", "a1", "1", "a;", "starts", "star"};
@@ -71,7 +71,7 @@ public final class ModelTest {
             tape(setupText(random.nextInt(5) == 0));
             call("load");
         }
-        int questions = 1 + random.nextInt(9);
+        int questions = 1 + random.nextInt(12);
         while (history.size() < CALLS - 50 && !wrong) {
             step(questions);
         }
@@ -80,10 +80,10 @@ public final class ModelTest {
 
     private void step(int questions) {
         int chance = random.nextInt(100);
-        if (chance < 2) {
+        if (chance < 1) {
             tape(setupText(random.nextInt(3) != 0));
             call("load");
-        } else if (chance < 10) {
+        } else if (chance < 6) {
             tape(WORDS[random.nextInt(WORDS.length)]);
             if (random.nextInt(3) == 0) {
                 call("rename", event());
@@ -93,7 +93,7 @@ public final class ModelTest {
             if (m.truncate(0) > 0) {
                 call("truncate", m.truncate(0));
             }
-        } else if (chance < 14) {
+        } else if (chance < 13) {
             any(SELDOM);
         } else {
             any(OPERATIONS);
@@ -110,12 +110,12 @@ public final class ModelTest {
         int[] args = new int[kinds.length()];
         int near = 0;
         for (int i = 0; i < args.length; i++) {
-            args[i] = argument(kinds.charAt(i), near);
+            args[i] = argument(kinds.charAt(i), near, args[0]);
             if (kinds.charAt(i) == 'e') {
-                near = i > 0 ? m.bound(args[0], args[i]) : m.event(args[i], random.nextInt(2));
-                if (i > 0 && random.nextBoolean()) {
-                    near = m.bound(args[i], args[0]);
-                }
+                near = m.event(args[i], random.nextInt(2));
+            }
+            if (kinds.charAt(i) == 'o') {
+                near = random.nextBoolean() ? m.bound(args[0], args[i]) : m.bound(args[i], args[0]);
             }
             if (kinds.charAt(i) == 'g') {
                 near = m.gap(args[i], 3);
@@ -124,7 +124,7 @@ public final class ModelTest {
         call(form.substring(0, space), args);
     }
 
-    private int argument(char kind, int near) {
+    private int argument(char kind, int near, int first) {
         int chance = random.nextInt(100);
         if (chance == 0) {
             return random.nextInt();
@@ -134,10 +134,15 @@ public final class ModelTest {
         }
         switch (kind) {
             case 'e': return event();
-            case 'g': return random.nextInt(m.value(2) + 1 + random.nextInt(2)) - (random.nextInt(20) == 0 ? 1 : 0);
+            case 'o': return other(first);
+            case 'g': return random.nextInt(m.value(2) + 1) - (random.nextInt(20) == 0 ? 1 : 0);
             case 'k': return random.nextInt(20) == 0 ? 2 : random.nextInt(2);
             case 's': return random.nextInt(2);
-            case 'w': return random.nextInt(random.nextBoolean() ? 15 : 4) - (random.nextInt(10) == 0 ? 1 : 0);
+            case '2':
+            case '4':
+            case '5':
+            case '7': return random.nextInt(kind - '0' + 1) + (random.nextInt(20) == 0 ? 1 : 0);
+            case 'v': return random.nextInt(14);
             case 'i': return random.nextInt(random.nextInt(4) == 0 ? 45 : 6) - (random.nextInt(10) == 0 ? 1 : 0);
             case 'b': return random.nextInt(random.nextBoolean() ? 40 : 700) - (random.nextInt(10) == 0 ? 1 : 0);
             case 'E': return random.nextInt(3) == 0 ? m.value(9) + random.nextInt(3) - 1 : 1 + random.nextInt(120);
@@ -147,6 +152,11 @@ public final class ModelTest {
 
     private int event() {
         return random.nextInt(m.value(1) + (random.nextInt(15) == 0 ? 1 : 0));
+    }
+
+    private int other(int first) {
+        int event = event();
+        return event == first && random.nextInt(10) != 0 ? event() : event;
     }
 
     private void tape(String text) {

@@ -224,6 +224,10 @@ public final class OperationsTest {
         C.is("off", x.turn(0), 0);
         C.is("on", x.turn(1), 1);
         C.is("denied", x.turn(0), TimeGaps.DENIED);
+        C.is("so that the ring is nought", x.set(0, 5), 6);
+        C.is("not denied", x.turn(0), 1);
+        C.is("undo", x.undo(), 3);
+        C.is("undo", x.undo(), 2);
         C.is("undo", x.undo(), 1);
         C.is("value(3)", x.value(3), 0);
     }
@@ -362,6 +366,14 @@ public final class OperationsTest {
         C.is("denied", x.reverse(0), TimeGaps.DENIED);
         x.turn(1);
         C.is("not denied by one that is off", x.reverse(0), 1);
+        x = Check.of("end 40;event a;event b;gap a b least 6;gap b a most 5;");
+        C.is("denied", x.reverse(0), TimeGaps.DENIED);
+        x.set(1, 6);
+        C.is("a ring of nought", x.reverse(0), 1);
+        C.is("play(1, 2)", x.play(1, 2), 0);
+        C.is("a most", x.reverse(1), 1);
+        C.is("bound(1, 2)", x.bound(1, 2), -6);
+        C.is("bound(2, 1)", x.bound(2, 1), 40);
     }
 
     private static void tighten() {

@@ -17,6 +17,7 @@ public final class SetupTest {
         errorPositionOfGaps();
         errorPositionOfRings();
         errorPositionOfPins();
+        errorPositionOfTextsThatEnd();
         limitsOfSetup();
         keywordsAreNoNames();
         C.finish();
@@ -304,6 +305,21 @@ public final class SetupTest {
         C.is("good", Check.load(x, "end 5;event a;event b;gap a b most 1;pin b 5;pin a 4;"), 1);
     }
 
+    private static void errorPositionOfTextsThatEnd() {
+        C.part("promise 5, texts that end too early");
+        String[] tokens = "end 9 ; event a ; event b ; gap a b most 5 ; gap start b least 2 off ; pin a 9 ; pin b 9 ;"
+                .split(" ");
+        StringBuilder text = new StringBuilder();
+        for (String token : tokens) {
+            if (text.length() == 0 || text.charAt(text.length() - 1) != ';') {
+                error(text.toString(), text.length());
+                error(text + " \n", text.length() + 2);
+            }
+            text.append(text.length() == 0 ? "" : " ").append(token);
+        }
+        C.is("the whole", Check.load(new TimeGaps(), text.toString()), 2);
+    }
+
     private static void limitsOfSetup() {
         C.part("promise 5, limits");
         StringBuilder nine = new StringBuilder("end 5;");
@@ -333,7 +349,18 @@ public final class SetupTest {
         for (String word : new String[] {"end", "event", "gap", "start", "most", "least", "off", "pin"}) {
             error("end 5;event " + word + ";", 12);
         }
+        error("fnd 5;", 0);
+        error("end 5;avent a;", 6);
+        error("end 5;event a;map start a most 3;", 14);
+        error("end 5;event a;bin a 3;", 14);
+        error("end 5;event a;gap start a post 3;", 26);
+        error("end 5;event a;gap start a beast 3;", 26);
+        error("end 5;event a;gap start a most 3 iff;", 33);
+        error("end 5;event a;gap smart a most 3;", 18);
         TimeGaps x = new TimeGaps();
+        C.is("names near keywords", Check.load(x, "end 5;event fnd;event avent;event map;event smart;event post;"
+                + "event beast;event iff;event bin;event even;gap fnd map most 3;"), 1);
+        x = new TimeGaps();
         C.is("names near keywords", Check.load(x, "end 5;event ends;event even;event ga;event star;event mos;"
                 + "event leas;event of;event pins;event z;gap ends even most 3;"), 1);
     }
