@@ -4,6 +4,7 @@ public final class FullTest {
 
     public static void main(String[] args) {
         full();
+        allSteps();
         leftBehind();
         C.finish();
     }
@@ -44,6 +45,7 @@ public final class FullTest {
         C.is("direct(9, 8)", x.direct(9, 8), 8);
         C.is("culprit", x.culprit(1, 9, 0, 39), 1);
         C.is("culprit", x.culprit(9, 0, 0, 999), TimeGaps.NOT_FOUND);
+        C.is("culprit", x.culprit(0, 1, 1, 61), TimeGaps.NOT_FOUND);
         C.is("slowest", x.slowest(), 4);
         C.is("pairs(1)", x.pairs(1), 45);
         C.is("ordered(9)", x.ordered(9), 9);
@@ -58,6 +60,8 @@ public final class FullTest {
         C.are("way(0, 1)", Check.way(x, 0, 1), 109, 8, 7, 6, 5, 4, 3, 2, 1);
         C.is("way(0, 1, 9)", x.way(0, 1, 9), TimeGaps.NOT_FOUND);
         C.is("ifTold", x.ifTold(8, 9, 0, 5, 0), 1);
+        C.is("ifTold", x.ifTold(0, 1, 1, 20, 1), 9);
+        C.is("ifTold", x.ifTold(0, 1, 1, 20, 2), 0);
         C.is("ifDropped", x.ifDropped(23, 0), 0);
         C.is("ifTurned", x.ifTurned(23, 2), 135);
         C.is("why", x.why(9, 0, 1, 0, 1), 45);
@@ -76,6 +80,25 @@ public final class FullTest {
         C.is("undo", x.undo(), 1);
         C.is("drop", x.drop(23), 23);
         C.is("drop", x.drop(0), 22);
+    }
+
+    private static void allSteps() {
+        C.part("all steps");
+        TimeGaps x = Check.of(setup().replace(" off", ""));
+        C.is("pinAll", x.pinAll(), 9);
+        C.is("value(5)", x.value(5), 60);
+        C.is("why", x.why(9, 1, 1, 0, 0), 2);
+        C.is("why", x.why(9, 1, 1, 0, 1), 40);
+        C.is("why", x.why(9, 1, 1, 0, 2), 409);
+        C.is("why", x.why(0, 9, 1, 46, 0), 1);
+        C.is("why", x.why(0, 9, 1, 46, 2), 309);
+        C.are("way(1, 9)", Check.way(x, 1, 9), 0, 309);
+        C.are("way(9, 1)", Check.way(x, 9, 1), 409, 301);
+        C.are("way(0, 9)", Check.way(x, 0, 9), 309);
+        C.is("value(7)", x.value(7), 0);
+        C.is("thin", x.thin(), 24);
+        C.isText("list", Check.list(x), "start 0\na 5!\nb 10!\nc 15!\nd 20!\ne 25!\nf 30!\ng 35!\n"
+                + "h 40!\ni 45!\n");
     }
 
     private static void leftBehind() {
