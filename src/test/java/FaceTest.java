@@ -44,9 +44,7 @@ public final class FaceTest {
         Set<String> got = new TreeSet<>();
         for (Method method : TimeGaps.class.getDeclaredMethods()) {
             if (!Modifier.isPrivate(method.getModifiers())) {
-                Set<String> words = new TreeSet<>();
-                words.add(Modifier.toString(method.getModifiers()));
-                C.isText(method.getName(), words.toString(), "[public]");
+                C.isText(method.getName(), Modifier.toString(method.getModifiers()), "public");
                 StringBuilder form = new StringBuilder(method.getReturnType() + " " + method.getName() + "(");
                 for (int i = 0; i < method.getParameterCount(); i++) {
                     form.append(i == 0 ? "" : ", ").append(method.getParameterTypes()[i]);
