@@ -1,5 +1,10 @@
 /** Counts answers that are not as due, and helps with tapes and texts. */
 final class Check {
+    /** A call with all arguments but one given. */
+    interface By {
+        int at(int argument);
+    }
+
     private final String name;
     private int calls;
     private int wrong;
@@ -42,6 +47,41 @@ final class Check {
         is(call + " (how many)", got.length, due.length);
         for (int i = 0; i < got.length && i < due.length; i++) {
             is(call + "[" + i + "]", got[i], due[i]);
+        }
+    }
+
+    /** An argument from first to last: both ends answer as due, all beyond them INVALID. */
+    void range(String call, By by, int first, int last, int dueFirst, int dueLast) {
+        beyond(call, by, first, last, TimeGaps.INVALID);
+        is(call + ", first " + first, by.at(first), dueFirst);
+        is(call + ", last " + last, by.at(last), dueLast);
+    }
+
+    void beyond(String call, By by, int first, int last, int code) {
+        is(call + ", below " + first, by.at(first - 1), code);
+        is(call + ", above " + last, by.at(last + 1), code);
+        is(call + ", least int", by.at(Integer.MIN_VALUE), code);
+        is(call + ", greatest int", by.at(Integer.MAX_VALUE), code);
+    }
+
+    /** An index from 0: the last one answers as due, those behind NOT_FOUND, those below 0 INVALID. */
+    void index(String call, By by, int count, int dueLast) {
+        is(call + ", -1", by.at(-1), TimeGaps.INVALID);
+        is(call + ", least int", by.at(Integer.MIN_VALUE), TimeGaps.INVALID);
+        is(call + ", last " + (count - 1), by.at(count - 1), dueLast);
+        is(call + ", behind " + count, by.at(count), TimeGaps.NOT_FOUND);
+        is(call + ", greatest int", by.at(Integer.MAX_VALUE), TimeGaps.NOT_FOUND);
+    }
+
+    /** Two different events of four: any other ones, and twice the same, are INVALID. */
+    void pair(String call, java.util.function.IntBinaryOperator of) {
+        By one = e -> of.applyAsInt(e, 1);
+        By other = e -> of.applyAsInt(1, e);
+        beyond(call + ", one", one, 0, 3, TimeGaps.INVALID);
+        beyond(call + ", other", other, 0, 3, TimeGaps.INVALID);
+        for (int e = 0; e < 4; e++) {
+            is(call + ", twice " + e, of.applyAsInt(e, e), TimeGaps.INVALID);
+            is(call + ", good ones", of.applyAsInt(e, (e + 1) % 4) != TimeGaps.INVALID ? 1 : 0, 1);
         }
     }
 

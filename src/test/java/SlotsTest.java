@@ -127,12 +127,26 @@ public final class SlotsTest {
 
     private static void undoOfEach() {
         C.part("promise 21, each operation");
-        TimeGaps x = Check.of("end 40;event a;event b;gap start a least 4;gap a b least 6;gap start b least 9;");
-        String[] setups = new String[8];
-        int[] entries = new int[8];
         for (int i = 0; i < 8; i++) {
-            setups[i] = Check.setup(x);
-            entries[i] = x.value(11);
+            TimeGaps x = afterOperations(i + 1);
+            TimeGaps before = afterOperations(i);
+            C.is("value(12)", x.value(12), i + 1);
+            C.is("undo", x.undo(), i);
+            C.isText("setup " + i, Check.setup(x), Check.setup(before));
+            C.isText("list " + i, Check.list(x), Check.list(before));
+            C.is("value(11)", x.value(11), before.value(11));
+        }
+        TimeGaps x = afterOperations(8);
+        for (int i = 7; i >= 0; i--) {
+            C.is("undo", x.undo(), i);
+        }
+        C.isText("setup", Check.setup(x), Check.setup(afterOperations(0)));
+        C.is("value(11)", x.value(11), 0);
+    }
+
+    private static TimeGaps afterOperations(int count) {
+        TimeGaps x = Check.of("end 40;event a;event b;gap start a least 4;gap a b least 6;gap start b least 9;");
+        for (int i = 0; i < count; i++) {
             switch (i) {
                 case 0:
                     Check.open(x, "c");
@@ -159,13 +173,8 @@ public final class SlotsTest {
                     x.unpin(2);
                     break;
             }
-            C.is("value(12)", x.value(12), i + 1);
         }
-        for (int i = 7; i >= 0; i--) {
-            C.is("undo", x.undo(), i);
-            C.isText("setup " + i, Check.setup(x), setups[i]);
-            C.is("value(11)", x.value(11), entries[i]);
-        }
+        return x;
     }
 
     private static void undoOfTheLatestEight() {
