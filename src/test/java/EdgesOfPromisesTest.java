@@ -469,6 +469,13 @@ public final class EdgesOfPromisesTest {
         x = Check.of("end 40;event a;event b;gap a b most 1;gap b a least 0 off;gap a b least 0;pin a 9;pin b 10;");
         C.is("least", x.tighten(), 1);
         C.is("gap(2, 3)", x.gap(2, 3), 1);
+        x = Check.of(gaps24().replace("most 9", "most 10"));
+        C.is("all of 24", x.tighten(), 24);
+        C.is("gap(23, 3)", x.gap(23, 3), 9);
+        C.is("again", x.tighten(), NOT_FOUND);
+        x = Check.of("end 9;event a;gap start a most 9;gap start a most 10;");
+        x.drop(1);
+        C.is("the loose one is dropped", x.tighten(), NOT_FOUND);
         C.part("16: no BOUND changes by that");
         x = Check.of(BASE + "gap a c most 999;gap c start most 30;gap start c least 0;");
         int[] before = bounds(x);
@@ -503,6 +510,8 @@ public final class EdgesOfPromisesTest {
         x = Check.of(gaps24().replace("most 9", "most 8"));
         C.is("all but the last", x.thin(), 23);
         C.is("value(7)", x.value(7), 1);
+        x.drop(0);
+        C.is("what was dropped", x.thin(), NOT_FOUND);
         x = Check.of("end 40;event a;gap start a most 8;gap start a most 9;gap start a most 8;gap start a most 7 off;");
         C.is("the smaller one of two alike", x.thin(), 2);
         C.is("gap(0, 3)", x.gap(0, 3), 8);
@@ -578,7 +587,10 @@ public final class EdgesOfPromisesTest {
         C.is("to empty", x.restore(0), 0);
         C.isText("list", Check.list(x), "start 0\n");
         C.is("value(11)", x.value(11), 0);
+        C.is("value(5)", x.value(5), 0);
+        C.is("freest", x.freest(), 0);
         C.is("to full", x.restore(1), 24);
+        C.is("value(5)", x.value(5), 60);
         C.is("value(0)", x.value(0), 109);
         C.is("value(1)", x.value(1), 10);
         C.is("value(4)", x.value(4), 9);
@@ -586,6 +598,16 @@ public final class EdgesOfPromisesTest {
         C.are("log", Check.entry(x, 0), 0, 4, 5);
         C.are("log", Check.entry(x, 39), 7, 109, 108);
         C.is("bound(1, 2)", x.bound(1, 2), 0);
+        C.is("undo", x.undo(), 7);
+        C.is("widest", x.widest(), NOT_FOUND);
+        C.is("value(5)", x.value(5), 0);
+        x = base();
+        x.keep(0);
+        x.set(0, 30);
+        C.is("earliest", x.event(1, 0), 30);
+        C.is("restore", x.restore(0), 5);
+        C.is("earliest as it was", x.event(1, 0), 4);
+        C.is("latest as it was", x.event(1, 1), 34);
     }
 
     private static TimeGaps kept() {
@@ -611,6 +633,15 @@ public final class EdgesOfPromisesTest {
         }
         C.is("none", x.undo(), INVALID);
         C.is("value(0)", x.value(0), 91);
+        Check.open(x, "a");
+        x.tell(0, 1, 1, 90);
+        C.is("earliest", x.event(1, 0), 90);
+        x.undo();
+        C.is("earliest again", x.event(1, 0), 0);
+        C.is("latest again", x.event(1, 1), 91);
+        C.are("way again", Check.way(x, 1, 0), 201);
+        C.is("undo", x.undo(), 0);
+        C.is("steps again", x.value(5), 0);
         C.part("21: the latest operation that has not been undone");
         x.end(200);
         x.end(300);
@@ -864,6 +895,10 @@ public final class EdgesOfPromisesTest {
         C.pair("direct", x::direct);
         C.is("none", new TimeGaps().direct(0, 0), INVALID);
         C.is("by 0 alone", x.direct(3, 0), NOT_FOUND);
+        TimeGaps z = Check.of("end 9;event a;event b;gap start b most 8;");
+        C.is("to another one", z.direct(0, 1), NOT_FOUND);
+        C.is("from another one", z.direct(1, 2), NOT_FOUND);
+        C.is("it", z.direct(0, 2), 0);
         C.part("32: the smallest gap that is on");
         TimeGaps y = Check.of(gaps24());
         C.is("as far as END", y.direct(0, 1), 0);

@@ -85,6 +85,14 @@ public final class EdgesOfReasonsTest {
         C.is("longer than END", x.why(0, 1, 1, 35, 0), 2);
         C.is("two steps to the START by 0", x.why(1, 0, 1, 1, 0), 1);
         C.is("two steps to the START by 0, just not", x.why(2, 0, 1, 0, 0), 2);
+        TimeGaps y = full(Check.of("end 40;event a;event b;event c;event d;event e;event f;event g;event h;event i;"
+                + "gap a b least 3;gap b c least 3;"));
+        y.pinAll();
+        C.is("60 steps", y.value(5), 60);
+        C.is("two of 60 steps just do", y.why(1, 2, 0, 2, 0), 1);
+        C.is("none of 60 steps", y.why(1, 3, 0, 5, 0), 2);
+        C.is("the last one of 60 steps", y.why(0, 9, 1, 1, 0), 1);
+        C.is("the last one of 60 steps, just not", y.why(0, 9, 1, 0, 0), 0);
         x.turn(0);
         C.is("one that is off is none", x.why(1, 2, 0, 2, 0), 2);
         x.pin(2, 20);
@@ -131,6 +139,8 @@ public final class EdgesOfReasonsTest {
         x.turn(0);
         C.is("one that is off", x.culprit(0, 2, 0, 5), 1);
         C.is("the last of 24", lastOf24().culprit(0, 1, 0, 4), 23);
+        C.is("none of 24", lastOf24().culprit(0, 1, 1, 41), NOT_FOUND);
+        C.is("each of two of 24", lastOf24().culprit(0, 1, 1, 40), NOT_FOUND);
     }
 
     private static TimeGaps lastOf24() {
@@ -293,6 +303,7 @@ public final class EdgesOfReasonsTest {
         TimeGaps x = base();
         C.range("ifTurned, gap", gap -> x.ifTurned(gap, 2), 0, 4, 108, 100);
         C.range("ifTurned, what", what -> x.ifTurned(3, what), 0, 2, 3, 98);
+        C.range("ifTurned, what of one that is on", what -> x.ifTurned(0, what), 0, 2, 4, 108);
         C.is("without gaps", new TimeGaps().ifTurned(0, 0), INVALID);
         TimeGaps y = Check.of("end 40;event a;event b;gap a b least 6;gap a b most 5 off;gap a b most 6 off;");
         C.range("ifTurned, what, denied", what -> y.ifTurned(1, what), 0, 2, DENIED, DENIED);

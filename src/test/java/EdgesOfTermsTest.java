@@ -536,7 +536,19 @@ public final class EdgesOfTermsTest {
                 good("end 9;event " + word + "s;", 0);
             }
             good("end 9;event " + word.substring(1) + ";", 0);
+            good("end 9;event z" + word.substring(1) + ";", 0);
+            good("end 9;event " + word.substring(0, word.length() - 1) + "z;", 0);
         }
+        error("znd 9;", 0);
+        error("enz 9;", 0);
+        error("end 9;zvent a;", 6);
+        error("end 9;evenz a;", 6);
+        error("end 9;event a;zap start a most 3;", 14);
+        error("end 9;event a;gap ztart a most 3;", 18);
+        error("end 9;event a;gap start a zost 3;", 26);
+        error("end 9;event a;gap start a zeast 3;", 26);
+        error("end 9;event a;gap start a most 3 zff;", 33);
+        error("end 9;event a;zin a 3;", 14);
         error("end 9;event a;gap start most most 3;", 24);
     }
 

@@ -64,6 +64,7 @@ public final class RefusedTest {
     private static void plan(TimeGaps x, StringBuilder seen) {
         seen.append(" : ").append(x.value(0)).append(' ').append(x.value(1)).append(' ').append(x.value(2))
                 .append(' ').append(x.value(4)).append(' ').append(x.value(11)).append(' ').append(x.setupLength());
+        seen.append(' ').append(x.event(1, 0)).append(' ').append(x.event(1, 1)).append(' ').append(x.event(1, 3));
         int gap = x.value(2) - 1;
         for (int what = 0; what < 5 && gap >= 0; what++) {
             seen.append(' ').append(x.gap(gap, what));
