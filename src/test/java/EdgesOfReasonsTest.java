@@ -41,7 +41,7 @@ public final class EdgesOfReasonsTest {
 
     /** Fills up to 24 gaps with such as tell nothing new. */
     private static TimeGaps full(TimeGaps x) {
-        while (x.value(2) < 24) {
+        for (int gap = x.value(2); gap < 24; gap++) {
             x.tell(0, 1, 0, 999);
         }
         return x;

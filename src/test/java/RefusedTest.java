@@ -160,8 +160,8 @@ public final class RefusedTest {
         for (char name = 'd'; name < 'j'; name++) {
             Check.open(x, "" + name);
         }
-        while (x.value(2) < 24) {
-            x.tell(1, 2, 0, 9 + x.value(2));
+        for (int gap = x.value(2); gap < 24; gap++) {
+            x.tell(1, 2, 0, 9 + gap);
         }
         Check.tape(x, "qr");
         return x;
